@@ -14,6 +14,7 @@ public final class ExtractTest {
         firstGoodOfASeed();
         seedsInOrder();
         twinsAgain();
+        firstPieceAgain();
         unequalsAreNotAgain();
         damagedIntoTwin();
         output();
@@ -172,6 +173,17 @@ public final class ExtractTest {
         x.extract(0);
         Help.isCounts(DUE, "again before the cache", x, 0, 4, 0, 1);
         DUE.is("unpack", x.unpack(), 2);
+    }
+
+    private static void firstPieceAgain() {
+        SliceDepot x = new SliceDepot(8, 8, 8);
+        Help.file(x, 1, 7, 7, 7, 7, 7, 1, 1, 16, 7, 7, 7, 7, 7, 0, 0, 0);
+        x.make();
+        DUE.is("piece 1 is as piece 0", (int) x.piece(0, 1), (int) x.piece(0, 0));
+        DUE.is("ids", x.size(4), 2);
+        DUE.is("extract(0)", x.extract(0), 21);
+        Help.isCounts(DUE, "piece 0 again", x, 2, 0, 0, 1);
+        Help.isOutput(DUE, "piece 0 again", x, 1, 1, 16, 7, 7, 7, 7, 7, 1, 1, 16, 7, 7, 7, 7, 7, 0, 0, 0, 9, 1);
     }
 
     private static void unequalsAreNotAgain() {

@@ -114,6 +114,12 @@ public final class ImageTest {
         x.edit(5, 8, 254);
         DUE.is("41 ids", x.make(), -2);
         fill(x, 2);
+        x.edit(1, 0, 255);
+        x.edit(2, 8, 252);
+        x.edit(3, 10, 253);
+        x.edit(5, 8, 254);
+        DUE.is("41 ids, the first piece's among them", x.make(), -2);
+        fill(x, 2);
         x.edit(1, 6, 251);
         x.edit(2, 8, 252);
         x.edit(3, 10, 253);

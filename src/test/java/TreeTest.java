@@ -53,14 +53,36 @@ public final class TreeTest {
         }
     }
 
+    /** Many streams cut and joined to one number: other numbers than the same three give another. */
+    private static long rootsOfMany(int least, int mean, int most) {
+        SliceDepot x = new SliceDepot(least, mean, most);
+        for (int name = 1; name <= 5; name++) {
+            x.create(name, 1);
+            x.append(name, 91 * name, 16);
+        }
+        long all = 0;
+        for (int v = 0; v < 100; v++) {
+            x.edit(1 + v % 5, v % 16, 31 * v);
+            x.make();
+            all = all * 1000003 + x.root(0);
+            x.discard(0);
+            x.collect();
+        }
+        return all;
+    }
+
     private static void numbersThatDoNotFit() {
-        long usual = firstEnd(8, 12, 24);
+        long usual = rootsOfMany(8, 12, 24);
         int[][] wrong = {{7, 32, 32}, {32, 32, 33}, {32, 31, 32}, {31, 32, 31}, {0, 0, 0}, {-1, -1, -1},
             {Integer.MIN_VALUE, 12, 24}, {32, 32, Integer.MAX_VALUE}, {32, Integer.MIN_VALUE, 32}};
         for (int[] w : wrong) {
-            DUE.is("first end with " + w[0] + ", " + w[1] + ", " + w[2], firstEnd(w[0], w[1], w[2]), usual);
+            DUE.is("roots with " + w[0] + ", " + w[1] + ", " + w[2], rootsOfMany(w[0], w[1], w[2]), usual);
         }
-        DUE.no("the usual first end is 32", usual == 32);
+        int[][] near = {{9, 12, 24}, {8, 11, 24}, {8, 13, 24}, {8, 12, 23}, {8, 12, 25}};
+        for (int[] n : near) {
+            DUE.no("roots with " + n[0] + ", " + n[1] + ", " + n[2] + " are the usual",
+                    rootsOfMany(n[0], n[1], n[2]) == usual);
+        }
     }
 
     private static void create() {

@@ -242,6 +242,7 @@ public final class UnpackTest {
         int store = x.size(5);
         Help.outputs(x, 9, 0);
         DUE.is("unpack()", x.unpack(), 0);
+        DUE.is("the tree is empty", x.size(0), 0);
         DUE.is("image", x.root(0), root);
         DUE.is("store", x.size(5), store);
         DUE.is("extract", x.extract(0), 21);

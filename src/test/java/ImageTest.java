@@ -16,6 +16,7 @@ public final class ImageTest {
         root();
         piece();
         pieceEndsByMark();
+        mostPieces();
         DUE.end();
     }
 
@@ -256,5 +257,23 @@ public final class ImageTest {
             }
             DUE.is("no piece behind the last", x.piece(0, k), -1);
         }
+    }
+
+    private static void mostPieces() {
+        SliceDepot x = eights();
+        fill(x, 1);
+        for (int name = 11; name <= 15; name++) {
+            x.create(name, 2);
+        }
+        DUE.is("the longest stream", x.size(2), 117);
+        DUE.is("make()", x.make(), 0);
+        DUE.is("end of piece 14", x.piece(0, 14) >> 32, 117);
+        DUE.is("piece 15", x.piece(0, 15), -1);
+        DUE.is("extract(0)", x.extract(0), 117);
+        DUE.is("unpack()", x.unpack(), 10);
+        DUE.yes("seed(1)", x.seed(1));
+        DUE.is("scan(1)", x.scan(1), 15);
+        DUE.yes("alter the last byte", x.alter(1, 116, 10));
+        DUE.no("alter behind it", x.alter(1, 117, 10));
     }
 }

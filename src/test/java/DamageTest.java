@@ -13,15 +13,15 @@ public final class DamageTest {
         DUE.end();
     }
 
-    private static SliceDepot withImage() {
-        SliceDepot x = new SliceDepot(8, 8, 8);
+    private static Depot withImage() {
+        Depot x = new Depot(8, 8, 8);
         Help.file(x, 1, Help.row(16, 0));
         x.make();
         return x;
     }
 
     private static void ofTheStore() {
-        SliceDepot x = withImage();
+        Depot x = withImage();
         DUE.yes("a byte", x.damage(0, 0, 2, 4, 255));
         DUE.is("that piece fails", x.extract(0), -4);
         DUE.yes("the byte as it was", x.damage(0, 0, 2, 4, 1));
@@ -40,7 +40,7 @@ public final class DamageTest {
     }
 
     private static void ofTheCache() {
-        SliceDepot x = withImage();
+        Depot x = withImage();
         DUE.no("nothing in the cache", x.damage(1, 0, 0, 0, 1));
         DUE.no("nothing to take out of the cache", x.damage(1, 0, 0, -1, 1));
         x.extract(0);
@@ -58,7 +58,7 @@ public final class DamageTest {
     }
 
     private static void refused() {
-        SliceDepot x = withImage();
+        Depot x = withImage();
         x.extract(0);
         int[] where = {-1, 2, Integer.MIN_VALUE, Integer.MAX_VALUE};
         for (int w : where) {
@@ -91,7 +91,7 @@ public final class DamageTest {
     }
 
     private static void bytesOfAnotherLength() {
-        SliceDepot x = new SliceDepot(8, 8, 8);
+        Depot x = new Depot(8, 8, 8);
         Help.unequals(x);
         x.make();
         DUE.yes("piece 4 has seven bytes, eight are kept", x.damage(0, 0, 4, 7, 0));

@@ -21,14 +21,14 @@ public final class ExtractTest {
         DUE.end();
     }
 
-    private static SliceDepot eights() {
-        SliceDepot x = new SliceDepot(8, 8, 8);
+    private static Depot eights() {
+        Depot x = new Depot(8, 8, 8);
         Help.file(x, 1, Help.row(16, 0));
         return x;
     }
 
     private static void orderOfSources() {
-        SliceDepot x = eights();
+        Depot x = eights();
         x.make();
         DUE.is("first", x.extract(0), 21);
         Help.isCounts(DUE, "from the store", x, 3, 0, 0, 0);
@@ -48,7 +48,7 @@ public final class ExtractTest {
     }
 
     private static void refused() {
-        SliceDepot x = eights();
+        Depot x = eights();
         x.make();
         x.extract(0);
         int[] none = {-1, 1, 3, 4, Integer.MIN_VALUE, Integer.MAX_VALUE};
@@ -60,7 +60,7 @@ public final class ExtractTest {
     }
 
     private static void failed() {
-        SliceDepot x = eights();
+        Depot x = eights();
         x.make();
         x.extract(0);
         for (int k = 0; k < 3; k++) {
@@ -82,8 +82,8 @@ public final class ExtractTest {
     }
 
     /** Two files of 16 and one of 13: seven pieces, one more than the cache keeps. */
-    private static SliceDepot sevenPieces() {
-        SliceDepot x = eights();
+    private static Depot sevenPieces() {
+        Depot x = eights();
         Help.file(x, 2, Help.row(16, 100));
         Help.file(x, 3, Help.row(10, 200));
         x.make();
@@ -91,7 +91,7 @@ public final class ExtractTest {
     }
 
     private static void turnsInTheCache() {
-        SliceDepot x = sevenPieces();
+        Depot x = sevenPieces();
         DUE.is("first", x.extract(0), 53);
         DUE.is("ids in the cache", x.size(6), 6);
         DUE.is("bytes in the cache", x.size(7), 45);
@@ -108,7 +108,7 @@ public final class ExtractTest {
     }
 
     private static void placeWithoutChangeOfTurn() {
-        SliceDepot x = sevenPieces();
+        Depot x = sevenPieces();
         x.extract(0);
         // In the cache now: 1 2 3 4 5 6, the oldest first. Piece 1 gets its bytes anew, and still goes first.
         x.seed(0);
@@ -126,7 +126,7 @@ public final class ExtractTest {
     }
 
     private static void firstGoodOfASeed() {
-        SliceDepot x = new SliceDepot(8, 8, 8);
+        Depot x = new Depot(8, 8, 8);
         Help.file(x, 1, Help.laid(Help.row(16, 40), 5, Help.TWIN));
         x.make();
         Help.twins(x);
@@ -144,7 +144,7 @@ public final class ExtractTest {
     }
 
     private static void seedsInOrder() {
-        SliceDepot x = new SliceDepot(8, 8, 8);
+        Depot x = new Depot(8, 8, 8);
         int[] one = Help.laid(Help.row(16, 40), 5, Help.TWIN);
         int[] other = Help.laid(Help.row(16, 40), 5, Help.OTHER_TWIN);
         Help.file(x, 1, one);
@@ -162,7 +162,7 @@ public final class ExtractTest {
     }
 
     private static void twinsAgain() {
-        SliceDepot x = new SliceDepot(8, 8, 8);
+        Depot x = new Depot(8, 8, 8);
         Help.twins(x);
         x.make();
         x.extract(0);
@@ -176,7 +176,7 @@ public final class ExtractTest {
     }
 
     private static void firstPieceAgain() {
-        SliceDepot x = new SliceDepot(8, 8, 8);
+        Depot x = new Depot(8, 8, 8);
         Help.file(x, 1, 7, 7, 7, 7, 7, 1, 1, 16, 7, 7, 7, 7, 7, 0, 0, 0);
         x.make();
         DUE.is("piece 1 is as piece 0", (int) x.piece(0, 1), (int) x.piece(0, 0));
@@ -187,7 +187,7 @@ public final class ExtractTest {
     }
 
     private static void unequalsAreNotAgain() {
-        SliceDepot x = new SliceDepot(8, 8, 8);
+        Depot x = new Depot(8, 8, 8);
         Help.unequals(x);
         x.make();
         DUE.is("the store's bytes are one too many", x.extract(0), -6);
@@ -213,7 +213,7 @@ public final class ExtractTest {
     }
 
     private static void damagedIntoTwin() {
-        SliceDepot x = new SliceDepot(8, 8, 8);
+        Depot x = new Depot(8, 8, 8);
         Help.twins(x);
         x.make();
         for (int i = 0; i < 8; i++) {
@@ -225,7 +225,7 @@ public final class ExtractTest {
     }
 
     private static void output() {
-        SliceDepot x = eights();
+        Depot x = eights();
         DUE.is("empty: output(0)", x.output(0), -2);
         x.make();
         x.extract(0);

@@ -33,7 +33,7 @@ final class Help {
         return all;
     }
 
-    static void file(SliceDepot x, int path, int... bytes) {
+    static void file(Depot x, int path, int... bytes) {
         x.remove(path);
         x.create(path, 1);
         if (bytes.length > 0) {
@@ -45,33 +45,57 @@ final class Help {
     }
 
     /** With pieces of eight: file 1's bytes 5 to 12 are piece 1, file 2's bytes 2 to 9 piece 3, of five. */
-    static void twins(SliceDepot x) {
+    static void twins(Depot x) {
         file(x, 1, laid(row(16, 40), 5, TWIN));
         file(x, 2, laid(row(16, 80), 2, OTHER_TWIN));
     }
 
     /** With pieces of eight: piece 1 has eight bytes, and piece 4, the last, seven of the same id. */
-    static void unequals(SliceDepot x) {
+    static void unequals(Depot x) {
         file(x, 1, laid(row(16, 40), 5, LONGER));
         file(x, 2, laid(row(15, 80), 10, SHORTER));
     }
 
+    /** Files 1 to 5 of 16 bytes each: a stream of 97 bytes, 13 pieces of eight, the last of them of one byte. */
+    static void fiveFiles(Depot x) {
+        for (int name = 1; name <= 5; name++) {
+            x.create(name, 1);
+            x.append(name, 50 * name, 16);
+        }
+    }
+
+    /** With five files and pieces of eight: the first byte of a file in piece k, of 0 to 11, becomes v. */
+    static void touch(Depot x, int k, int v) {
+        int place = 8 * k;
+        while (place % 19 < 3) {
+            place++;
+        }
+        x.edit(1 + place / 19, place % 19 - 3, v);
+    }
+
+    /** Touches pieces 0 to n - 1. */
+    static void touchFirst(Depot x, int n, int v) {
+        for (int k = 0; k < n; k++) {
+            touch(x, k, v);
+        }
+    }
+
     /** The output becomes these bytes. */
-    static void outputs(SliceDepot x, int... bytes) {
+    static void outputs(Depot x, int... bytes) {
         x.spoil(0, -1);
         for (int i = 0; i < bytes.length; i++) {
             x.spoil(i, bytes[i]);
         }
     }
 
-    static void isOutput(Due due, String what, SliceDepot x, int... bytes) {
+    static void isOutput(Due due, String what, Depot x, int... bytes) {
         due.is(what + ": output(-1)", x.output(-1), bytes.length);
         for (int i = 0; i < bytes.length; i++) {
             due.is(what + ": output(" + i + ")", x.output(i), bytes[i]);
         }
     }
 
-    static void isCounts(Due due, String what, SliceDepot x, int asked, int cached, int seeded, int again) {
+    static void isCounts(Due due, String what, Depot x, int asked, int cached, int seeded, int again) {
         due.is(what + ": asked", x.counts(0), asked);
         due.is(what + ": cached", x.counts(1), cached);
         due.is(what + ": seeded", x.counts(2), seeded);

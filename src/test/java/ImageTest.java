@@ -20,12 +20,12 @@ public final class ImageTest {
         DUE.end();
     }
 
-    private static SliceDepot eights() {
-        return new SliceDepot(8, 8, 8);
+    private static Depot eights() {
+        return new Depot(8, 8, 8);
     }
 
     private static void numbersOfImages() {
-        SliceDepot x = eights();
+        Depot x = eights();
         for (int i = 0; i < 4; i++) {
             DUE.is("make()", x.make(), i);
         }
@@ -39,7 +39,7 @@ public final class ImageTest {
     }
 
     private static void storeOfAnImage() {
-        SliceDepot x = eights();
+        Depot x = eights();
         Help.file(x, 1, Help.row(16, 0));
         x.make();
         DUE.is("ids", x.size(4), 3);
@@ -53,7 +53,7 @@ public final class ImageTest {
     }
 
     private static void storeIsNotWrittenTwice() {
-        SliceDepot x = eights();
+        Depot x = eights();
         Help.file(x, 1, Help.row(16, 0));
         x.make();
         x.damage(0, 0, 1, 0, 99);
@@ -67,7 +67,7 @@ public final class ImageTest {
     }
 
     private static void onlyTheFirstOfOneId() {
-        SliceDepot x = eights();
+        Depot x = eights();
         Help.twins(x);
         x.make();
         DUE.is("one id of two pieces", (int) x.piece(0, 1), (int) x.piece(0, 3));
@@ -84,58 +84,31 @@ public final class ImageTest {
         DUE.is("unequal: bytes", x.size(5), 32);
     }
 
-    /** Five files of 16 bytes that no other fill has: stream 97, thirteen pieces with eights. */
-    private static void fill(SliceDepot x, int fill) {
-        for (int name = 1; name <= 5; name++) {
-            Help.file(x, name, Help.row(16, 50 * fill + 3 * name));
-            for (int at = 1; at < 16; at += 4) {
-                x.edit(name, at, 7 * fill + at * name);
-            }
-        }
-    }
-
     private static void fullStore() {
-        SliceDepot x = eights();
-        for (int fill = 0; fill < 3; fill++) {
-            fill(x, fill);
-            DUE.is("fill " + fill, x.make(), fill);
+        Depot x = eights();
+        Help.fiveFiles(x);
+        for (int i = 0; i < 3; i++) {
+            DUE.is("image " + i, x.make(), i);
+            DUE.is("ids of image " + i + " and before", x.size(4), 13 + 12 * i);
+            Help.touchFirst(x, 12, i + 1);
         }
-        int kept = x.size(4);
-        DUE.is("ids", kept, 37);
-        fill(x, 3);
-        DUE.is("too many ids", x.make(), -2);
-        DUE.is("nothing changed: images", x.size(3), 3);
-        DUE.is("nothing changed: ids", x.size(4), kept);
-        DUE.is("nothing changed: root", x.root(3), 0);
-        DUE.is("nothing changed: piece", x.piece(3, 0), -1);
-        fill(x, 2);
-        x.edit(1, 6, 251);
-        x.edit(2, 8, 252);
-        x.edit(3, 10, 253);
-        x.edit(5, 8, 254);
+        DUE.is("49 ids", x.make(), -2);
+        Help.touchFirst(x, 12, 2);
+        Help.touchFirst(x, 4, 3);
         DUE.is("41 ids", x.make(), -2);
-        fill(x, 2);
-        x.edit(1, 0, 255);
-        x.edit(2, 8, 252);
-        x.edit(3, 10, 253);
-        x.edit(5, 8, 254);
-        DUE.is("41 ids, the first piece's among them", x.make(), -2);
-        fill(x, 2);
-        x.edit(1, 6, 251);
-        x.edit(2, 8, 252);
-        x.edit(3, 10, 253);
+        Help.touch(x, 0, 2);
         DUE.is("40 ids", x.make(), 3);
         DUE.is("ids now", x.size(4), 40);
         DUE.is("four images come before the ids", x.make(), -1);
         x.discard(3);
         DUE.is("no new ids", x.make(), 3);
         x.discard(3);
-        fill(x, 4);
-        DUE.is("full and new ids", x.make(), -2);
+        Help.touch(x, 0, 3);
+        DUE.is("full and one new id", x.make(), -2);
     }
 
     private static void discard() {
-        SliceDepot x = eights();
+        Depot x = eights();
         DUE.no("none there", x.discard(0));
         x.make();
         int[] none = {-1, 1, 3, 4, Integer.MIN_VALUE, Integer.MAX_VALUE};
@@ -153,7 +126,7 @@ public final class ImageTest {
     }
 
     private static void collect() {
-        SliceDepot x = eights();
+        Depot x = eights();
         Help.file(x, 1, Help.row(16, 0));
         x.make();
         DUE.is("all are in use", x.collect(), 0);
@@ -176,7 +149,7 @@ public final class ImageTest {
     }
 
     private static void root() {
-        SliceDepot x = eights();
+        Depot x = eights();
         x.make();
         int empty = Help.id(9, 0);
         DUE.is("of one piece", x.root(0), empty);
@@ -209,7 +182,7 @@ public final class ImageTest {
     }
 
     private static void piece() {
-        SliceDepot x = eights();
+        Depot x = eights();
         Help.file(x, 1, Help.row(8, 5));
         x.make();
         long first = Integer.toUnsignedLong(Help.id(1, 1, 8, 5, 6, 7, 8, 9));
@@ -236,7 +209,7 @@ public final class ImageTest {
     private static void pieceEndsByMark() {
         int[][] numbers = {{8, 8, 32}, {8, 9, 20}, {9, 10, 31}, {12, 12, 24}, {16, 20, 32}};
         for (int[] n : numbers) {
-            SliceDepot x = new SliceDepot(n[0], n[1], n[2]);
+            Depot x = new Depot(n[0], n[1], n[2]);
             for (int name = 1; name <= 5; name++) {
                 x.create(name, 1);
                 x.append(name, 91 * name, 16);
@@ -260,8 +233,8 @@ public final class ImageTest {
     }
 
     private static void mostPieces() {
-        SliceDepot x = eights();
-        fill(x, 1);
+        Depot x = eights();
+        Help.fiveFiles(x);
         for (int name = 11; name <= 15; name++) {
             x.create(name, 2);
         }

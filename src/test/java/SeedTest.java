@@ -15,14 +15,14 @@ public final class SeedTest {
         DUE.end();
     }
 
-    private static SliceDepot eights() {
-        SliceDepot x = new SliceDepot(8, 8, 8);
+    private static Depot eights() {
+        Depot x = new Depot(8, 8, 8);
         Help.file(x, 1, Help.row(16, 0));
         return x;
     }
 
     private static void seed() {
-        SliceDepot x = eights();
+        Depot x = eights();
         x.make();
         DUE.yes("seed(1)", x.seed(1));
         DUE.is("nothing goes into the store", x.size(4), 3);
@@ -38,7 +38,7 @@ public final class SeedTest {
     }
 
     private static void seedRefused() {
-        SliceDepot x = eights();
+        Depot x = eights();
         int[] none = {-1, 2, Integer.MIN_VALUE, Integer.MAX_VALUE};
         for (int s : none) {
             DUE.no("seed(" + s + ")", x.seed(s));
@@ -48,7 +48,7 @@ public final class SeedTest {
     }
 
     private static void alter() {
-        SliceDepot x = eights();
+        Depot x = eights();
         x.make();
         x.seed(0);
         DUE.yes("the first byte", x.alter(0, 0, 255));
@@ -63,7 +63,7 @@ public final class SeedTest {
     }
 
     private static void alterRefused() {
-        SliceDepot x = eights();
+        Depot x = eights();
         DUE.no("no bytes yet", x.alter(0, 0, 1));
         x.seed(0);
         DUE.no("the other seed has none", x.alter(1, 0, 1));
@@ -80,7 +80,7 @@ public final class SeedTest {
     }
 
     private static void scan() {
-        SliceDepot x = eights();
+        Depot x = eights();
         DUE.is("s -1", x.scan(-1), -1);
         DUE.is("s 2", x.scan(2), -1);
         DUE.is("empty", x.scan(0), 0);
@@ -100,7 +100,7 @@ public final class SeedTest {
     private static void scanCutsOtherwise() {
         int changed = 0;
         for (int at = 0; at < 16; at++) {
-            SliceDepot x = new SliceDepot(8, 8, 32);
+            Depot x = new Depot(8, 8, 32);
             Help.file(x, 1, Help.row(16, 0));
             x.seed(0);
             int before = x.scan(0);

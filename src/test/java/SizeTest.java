@@ -6,7 +6,7 @@ public final class SizeTest {
     }
 
     public static void main(String[] args) {
-        SliceDepot x = new SliceDepot(8, 8, 8);
+        Depot x = new Depot(8, 8, 8);
         sizes("new", x, 0, 0, 2, 0, 0, 0, 0, 0);
         Help.file(x, 1, Help.row(16, 0));
         x.create(2, 2);
@@ -33,7 +33,7 @@ public final class SizeTest {
         DUE.end();
     }
 
-    private static void sizes(String when, SliceDepot x, int... want) {
+    private static void sizes(String when, Depot x, int... want) {
         for (int what = 0; what < want.length; what++) {
             DUE.is(when + ": size(" + what + ")", x.size(what), want[what]);
         }

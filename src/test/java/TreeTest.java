@@ -21,7 +21,7 @@ public final class TreeTest {
     }
 
     private static void newObject() {
-        SliceDepot x = new SliceDepot(8, 12, 24);
+        Depot x = new Depot(8, 12, 24);
         int[] sizes = {0, 0, 2, 0, 0, 0, 0, 0};
         for (int what = 0; what < sizes.length; what++) {
             DUE.is("new: size(" + what + ")", x.size(what), sizes[what]);
@@ -39,7 +39,7 @@ public final class TreeTest {
 
     /** Equal bytes in a row never end a piece by their mark here, so the ends tell MOST. */
     private static long firstEnd(int least, int mean, int most) {
-        SliceDepot x = new SliceDepot(least, mean, most);
+        Depot x = new Depot(least, mean, most);
         for (int name = 1; name <= 5; name++) {
             Help.file(x, name, Help.row(16, 16 * name));
         }
@@ -55,7 +55,7 @@ public final class TreeTest {
 
     /** Many streams cut and joined to one number: other numbers than the same three give another. */
     private static long rootsOfMany(int least, int mean, int most) {
-        SliceDepot x = new SliceDepot(least, mean, most);
+        Depot x = new Depot(least, mean, most);
         for (int name = 1; name <= 5; name++) {
             x.create(name, 1);
             x.append(name, 91 * name, 16);
@@ -86,7 +86,7 @@ public final class TreeTest {
     }
 
     private static void create() {
-        SliceDepot x = new SliceDepot(8, 12, 24);
+        Depot x = new Depot(8, 12, 24);
         DUE.no("create at the root", x.create(0, 2));
         DUE.no("create below nothing", x.create(Help.path(1, 2), 1));
         DUE.no("kind 0", x.create(1, 0));
@@ -106,7 +106,7 @@ public final class TreeTest {
     }
 
     private static void createAtWhatIsNoPath() {
-        SliceDepot x = new SliceDepot(8, 12, 24);
+        Depot x = new Depot(8, 12, 24);
         int path = 0;
         for (int k = 0; k < 6; k++) {
             path |= 31 << (5 * k);
@@ -125,7 +125,7 @@ public final class TreeTest {
     }
 
     private static void createAtMostTen() {
-        SliceDepot x = new SliceDepot(8, 12, 24);
+        Depot x = new Depot(8, 12, 24);
         for (int name = 10; name >= 1; name--) {
             DUE.yes("create(" + name + ")", x.create(name, 1 + name % 2));
         }
@@ -137,7 +137,7 @@ public final class TreeTest {
     }
 
     private static void append() {
-        SliceDepot x = new SliceDepot(8, 12, 24);
+        Depot x = new Depot(8, 12, 24);
         x.create(3, 1);
         DUE.is("append 3", x.append(3, 250, 3), 3);
         DUE.is("append 1", x.append(3, -1, 1), 4);
@@ -151,7 +151,7 @@ public final class TreeTest {
     }
 
     private static void appendRefused() {
-        SliceDepot x = new SliceDepot(8, 12, 24);
+        Depot x = new Depot(8, 12, 24);
         x.create(1, 1);
         x.create(9, 2);
         DUE.is("n = 0", x.append(1, 1, 0), -1);
@@ -179,7 +179,7 @@ public final class TreeTest {
     }
 
     private static void edit() {
-        SliceDepot x = new SliceDepot(8, 12, 24);
+        Depot x = new Depot(8, 12, 24);
         x.create(1, 2);
         int path = Help.path(1, 2);
         x.create(path, 1);
@@ -198,7 +198,7 @@ public final class TreeTest {
     }
 
     private static void remove() {
-        SliceDepot x = new SliceDepot(8, 12, 24);
+        Depot x = new Depot(8, 12, 24);
         x.create(2, 2);
         x.create(Help.path(2, 1), 2);
         Help.file(x, Help.path(2, 1, 7), 5, 6);
@@ -219,7 +219,7 @@ public final class TreeTest {
     }
 
     private static void removeRefused() {
-        SliceDepot x = new SliceDepot(8, 12, 24);
+        Depot x = new Depot(8, 12, 24);
         x.create(2, 1);
         DUE.is("the root", x.remove(0), -1);
         DUE.is("nothing there", x.remove(1), -1);

@@ -20,12 +20,12 @@ public final class UnpackTest {
         DUE.end();
     }
 
-    private static SliceDepot fresh() {
-        return new SliceDepot(8, 12, 24);
+    private static Depot fresh() {
+        return new Depot(8, 12, 24);
     }
 
     private static void spoil() {
-        SliceDepot x = fresh();
+        Depot x = fresh();
         DUE.yes("add", x.spoil(0, 255));
         DUE.yes("add", x.spoil(1, 0));
         DUE.yes("add", x.spoil(2, 7));
@@ -41,7 +41,7 @@ public final class UnpackTest {
     }
 
     private static void spoilRefused() {
-        SliceDepot x = fresh();
+        Depot x = fresh();
         Help.outputs(x, 1, 2, 3);
         int[][] wrong = {{4, 0}, {-1, 0}, {0, 256}, {3, 256}, {0, -2}, {3, -2}, {4, -1}, {-1, -1},
             {Integer.MIN_VALUE, 1}, {Integer.MAX_VALUE, 1}, {Integer.MIN_VALUE, -1}, {Integer.MAX_VALUE, -1},
@@ -53,7 +53,7 @@ public final class UnpackTest {
     }
 
     private static void spoilAtMost120() {
-        SliceDepot x = fresh();
+        Depot x = fresh();
         for (int i = 0; i < 120; i++) {
             DUE.yes("spoil(" + i + ")", x.spoil(i, i));
         }
@@ -65,7 +65,7 @@ public final class UnpackTest {
     }
 
     private static void reads(int want, int... bytes) {
-        SliceDepot x = fresh();
+        Depot x = fresh();
         Help.outputs(x, bytes);
         DUE.is("unpack() of " + java.util.Arrays.toString(bytes), x.unpack(), want);
         Help.isOutput(DUE, "the output stays", x, bytes);
@@ -215,7 +215,7 @@ public final class UnpackTest {
     }
 
     private static void treeStaysAtAFault() {
-        SliceDepot x = fresh();
+        Depot x = fresh();
         Help.file(x, 4, 1, 2, 3);
         Help.outputs(x, 1, 1, 1, 5, 2, 2, 9, 0, 9, 3);
         DUE.is("the last byte is at fault", x.unpack(), -10);
@@ -233,7 +233,7 @@ public final class UnpackTest {
     }
 
     private static void otherThingsStay() {
-        SliceDepot x = fresh();
+        Depot x = fresh();
         Help.file(x, 1, Help.row(16, 0));
         x.make();
         x.seed(0);

@@ -1,3 +1,5 @@
+import java.util.List;
+
 /** Counts and prints the answers that are not the ones due. */
 final class Due {
     private int wrong;
@@ -15,6 +17,20 @@ final class Due {
 
     void no(String call, boolean got) {
         is(call, got ? 1 : 0, 0);
+    }
+
+    /** The first line that is not the one due is printed. */
+    void same(String when, List<String> got, List<String> want) {
+        if (got.equals(want)) {
+            return;
+        }
+        int line = 0;
+        while (line < got.size() && line < want.size() && got.get(line).equals(want.get(line))) {
+            line++;
+        }
+        wrong++;
+        System.out.println(when + ": " + (line < got.size() ? got.get(line) : "nothing more")
+                + ", due is " + (line < want.size() ? want.get(line) : "nothing more"));
     }
 
     int wrong() {

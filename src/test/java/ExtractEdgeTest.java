@@ -9,6 +9,7 @@ public final class ExtractEdgeTest {
         againBeforeAllElse();
         againNeedsAsManyBytes();
         againOfTheFirst();
+        againOfPieceZero();
         cachedBeforeSeeded();
         cachedNeedsGoodBytes();
         cachedNeedsAsManyBytes();
@@ -109,6 +110,16 @@ public final class ExtractEdgeTest {
         }
     }
 
+    private static void againOfPieceZero() {
+        Depot x = eights();
+        Help.file(x, 1, 7, 7, 7, 7, 7, 1, 1, 16, 7, 7, 7, 7, 7, 0, 0, 0);
+        x.make();
+        isExtract("piece 1 is as piece 0", x, 0, 21, 2, 0, 0, 1);
+        isExtract("cached but for piece 1", x, 0, 21, 0, 2, 0, 1);
+        DUE.is("unpack()", x.unpack(), 1);
+        DUE.is("size(2)", x.size(2), 21);
+    }
+
     /** "(2) The cache keeps good bytes under its id: these" */
     private static void cachedBeforeSeeded() {
         Depot x = threePieces();
@@ -132,6 +143,8 @@ public final class ExtractEdgeTest {
         x.damage(1, 0, 1, 7, 0);
         isExtract("the seed has it", x, 0, 21, 0, 2, 1, 0);
         isExtract("so it stayed bad", x, 0, 21, 0, 2, 1, 0);
+        DUE.is("and in the cache", x.size(6), 3);
+        DUE.yes("there it is", x.damage(1, 0, 1, -1, 0));
     }
 
     /** "GOOD for a piece when there are as many as the piece has" */

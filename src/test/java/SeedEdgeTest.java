@@ -17,6 +17,7 @@ public final class SeedEdgeTest {
         alterLeavesTheList();
         scanTakesTheBytesAsTheyAre();
         scanCutsAtOtherPlaces();
+        scanOfOneSeedAlone();
         seedCutsAnew();
         DUE.end();
     }
@@ -207,6 +208,25 @@ public final class SeedEdgeTest {
             x.alter(0, i, plain[i]);
         }
         DUE.is("not marked again", x.scan(0), 1);
+    }
+
+    private static void scanOfOneSeedAlone() {
+        for (int s = 0; s <= 1; s++) {
+            Depot x = eights();
+            Help.file(x, 1, Help.row(16, 50));
+            x.seed(0);
+            x.seed(1);
+            x.edit(1, 15, 99);
+            x.make();
+            x.alter(s, 18, 99);
+            DUE.is("scan of the other seed", x.scan(1 - s), 3);
+            x.extract(0);
+            Help.isCounts(DUE, "seed " + s + " has its old list", x, 1, 0, 2, 0);
+            x.damage(1, 0, 2, -1, 0);
+            DUE.is("scan(" + s + ")", x.scan(s), 3);
+            x.extract(0);
+            Help.isCounts(DUE, "seed " + s + " has a new list", x, 0, 0, 3, 0);
+        }
     }
 
     /** "and they are cut" */

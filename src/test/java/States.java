@@ -16,7 +16,7 @@ final class States {
      * Entries 1 (a directory with file 2 and the empty directory 3), 4 and 5 (files of 13 bytes), 6 (an empty file);
      * images 0 and 1 of eight pieces, piece 6 as piece 4, unlike one another in piece 5 alone. The store has piece 7
      * damaged, and image 1's piece 5 not at all; the cache has image 0's piece 1 damaged, and its pieces 0 and 3 not
-     * at all. The seeds have altered bytes, which are not cut anew, and the output is spoilt.
+     * at all. Both seeds have been altered to image 1's piece 5, but not cut anew, and the output is spoilt.
      */
     static Depot rich() {
         Depot x = new Depot(8, 8, 8);
@@ -36,7 +36,7 @@ final class States {
         x.edit(5, 0, 7);
         x.make();
         x.alter(0, 43, 7);
-        x.alter(1, 43, 9);
+        x.alter(1, 43, 7);
         x.alter(1, 0, 78);
         x.damage(0, 0, 7, 3, 200);
         x.damage(0, 1, 5, -1, 0);

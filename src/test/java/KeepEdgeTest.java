@@ -22,6 +22,7 @@ public final class KeepEdgeTest {
         oneIdOfManyPieces();
         placeOfAByteKeptThere();
         cacheOfAnotherLength();
+        damageAloneChangesBytes();
         DUE.end();
     }
 
@@ -295,5 +296,42 @@ public final class KeepEdgeTest {
         DUE.is("bytes in the cache", x.size(7), 39);
         DUE.yes("the shorter one's last byte", x.damage(1, 0, 1, 6, 1));
         DUE.no("the longer one's last byte", x.damage(1, 0, 1, 7, 1));
+    }
+
+    /** "Bytes that are kept under an id are changed by damage() alone, and in the cache as EXTRACTION says." */
+    private static void damageAloneChangesBytes() {
+        Depot x = sixCached();
+        x.damage(0, 0, 2, 0, 255);
+        x.damage(1, 0, 2, 1, 255);
+        isBadAtPieceTwo("damage()", x);
+        DUE.is("the same stream once more", x.make(), 1);
+        isBadAtPieceTwo("make()", x);
+        DUE.yes("the image goes", x.discard(1));
+        isBadAtPieceTwo("discard()", x);
+        DUE.is("nothing is collected", x.collect(), 0);
+        isBadAtPieceTwo("collect()", x);
+        x.edit(1, 13, 1);
+        x.append(3, 1, 1);
+        DUE.is("a file goes", x.remove(2), 1);
+        x.create(2, 2);
+        isBadAtPieceTwo("calls on the tree", x);
+        x.seed(0);
+        x.alter(0, 16, 3);
+        x.scan(0);
+        isBadAtPieceTwo("calls on a seed", x);
+        Help.outputs(x, 9, 0);
+        DUE.is("an empty tree", x.unpack(), 0);
+        isBadAtPieceTwo("spoil() and unpack()", x);
+        DUE.yes("the store's byte as it was", x.damage(0, 0, 2, 0, (60 + 37 * 13) & 255));
+        DUE.is("good bytes again", x.extract(0), 48);
+        Help.isCounts(DUE, "they took the place of the cache's", x, 1, 5, 0, 0);
+        x.extract(0);
+        Help.isCounts(DUE, "all cached", x, 0, 6, 0, 0);
+    }
+
+    private static void isBadAtPieceTwo(String after, Depot x) {
+        DUE.is("bad in store and cache after " + after, x.extract(0), -4);
+        Help.isCounts(DUE, "after " + after, x, 1, 2, 0, 0);
+        DUE.is("48 bytes in the cache after " + after, x.size(7), 48);
     }
 }
